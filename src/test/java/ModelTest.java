@@ -194,20 +194,34 @@ public final class ModelTest {
         }
     }
 
+    /** A deadline from just late enough for all these jobs to a room of more than one job. */
+    private static int deadlineFor(int machines, List<Integer> lengths) {
+        return new Model(machines, 0).leastEnd(lengths) + pick(4) * pick(30);
+    }
+
     /** Every answer of an object that holds all it can, where the plans are most. */
     private static void oneFullObject(int run) {
-        int machines = 2 + run % 2;
-        BatchAdmission x = new BatchAdmission(machines, 300);
-        Model model = new Model(machines, 300);
-        int longest = 2 + pick(59);
+        int machines = 1 + run % 3;
+        int longest = 2 + pick(machines == 1 ? 36 : 59);
+        List<Integer> lengths = new ArrayList<>();
         for (int job = 0; job < 8; job++) {
-            int length = 1 + pick(longest);
+            lengths.add(1 + pick(longest));
+        }
+        int deadline = deadlineFor(machines, lengths);
+        BatchAdmission x = new BatchAdmission(machines, deadline);
+        Model model = new Model(machines, deadline);
+        for (int job = 0; job < 8; job++) {
+            int length = lengths.get(job);
             due(run, job, "full: offer(" + length + ")", x.offer(length), model.offer(length));
         }
+        due(run, 0, "full: jobs()", x.jobs(), 8);
+        due(run, 0, "full: room()", x.room(), model.room());
         for (int machine = 0; machine < machines; machine++) {
-            int time = pick(longest);
+            int time = pick(3) * pick(longest) / 4;
             due(run, machine, "full: ready", x.ready(machine, time), model.ready(machine, time));
+            due(run, machine, "full: room() after ready", x.room(), model.room());
         }
+        due(run, 0, "full: offer(1)", x.offer(1), -3);
         due(run, 0, "full: end()", x.end(), model.leastEnd(model.lengths()));
         int[] plan = model.chosenPlan();
         for (int job = 0; job < 8; job++) {
