@@ -606,6 +606,11 @@ public final class BoundaryTest {
         due("room() where the chosen plan leaves 2", x.room(), 4);
         dueOffers(x, 5, -1, 4, 5);
         due("room() where nothing is left", x.room(), 0);
+        for (int length = 1; length <= 60; length++) {
+            BatchAdmission each = holding(3, 50, 40, 30, 20, 11);
+            due("room() before each length", each.room(), 39);
+            dueOffers(each, length, length <= 39 ? 4 : -1);
+        }
     }
 
     private static void roomOfEightHeld() {
@@ -713,14 +718,19 @@ public final class BoundaryTest {
         sentence("Not promised", "Nothing is promised beyond the answers and state changes described above",
                 "a call only asks");
         BatchAdmission x = holding(3, 100, 9, 8, 7, 6, 5);
-        BatchAdmission twin = holding(3, 100, 9, 8, 7, 6, 5);
         x.ready(1, 4);
-        twin.ready(1, 4);
         String first = answers(x);
         for (int round = 0; round < 10; round++) {
             dueSame("questions", answers(x), first);
         }
-        dueSame("questions", lastAnswers(x), lastAnswers(twin));
+        int[] readyTimes = {0, 4, 0};
+        for (int machine = 0; machine < 3; machine++) {
+            due("ready(" + machine + ", 0) after questions", x.ready(machine, 0), readyTimes[machine]);
+        }
+        int[] lengths = {9, 8, 7, 6, 5, -2, -2, -2};
+        for (int job = 0; job < 8; job++) {
+            due("withdraw(" + job + ") after questions", x.withdraw(job), lengths[job]);
+        }
     }
 
     public static void main(String[] args) {
